@@ -42,7 +42,7 @@ final class Kit {
 
     /**
      * A container, of lines: "class NAME SUPER", "field NAME TYPE STATIC", "method NAME STATIC RESULT LOCALS TYPES..",
-     * "label:" and instructions (a jump tells a label or a number). What follows a # is left out.
+     * and instructions, with "label:" ahead of them (a jump tells a label or a number). What follows a # is left out.
      */
     static int[] bytes(String source) {
         List<Integer> out = new ArrayList<>(List.of(83, 72, 0));
@@ -57,6 +57,13 @@ final class Kit {
                 continue;
             }
             String[] word = text.split(" +");
+            if (word[0].endsWith(":")) {
+                labels.put(word[0].substring(0, word[0].length() - 1), out.get(codeAt));
+                word = Arrays.copyOfRange(word, 1, word.length);
+                if (word.length == 0) {
+                    continue;
+                }
+            }
             if (word[0].equals("class")) {
                 aim(out, jumps, labels);
                 out.set(2, out.get(2) + 1);
@@ -85,8 +92,6 @@ final class Kit {
                 out.add(Integer.parseInt(word[4]));
                 codeAt = out.size();
                 out.add(0);
-            } else if (word[0].endsWith(":")) {
-                labels.put(word[0].substring(0, word[0].length() - 1), out.get(codeAt));
             } else {
                 out.set(codeAt, out.get(codeAt) + 1);
                 instruction(out, word, jumps);
