@@ -322,5 +322,9 @@ public final class Promise10ShrinkTest {
                 ZERO d
                 a: RETURN
                 """);
+        x = shrunk("class 1 0; field 1 0 1; method 1 1 0 0; JUMP a; b: CALL 0 1; RETURN; a: READ 0 0; ZERO b; JUMP a;"
+                + "method 2 1 0 0; INT 1; OUT; INT 2; OUT; RETURN", 0, 12);
+        Kit.dueSmall(x, "the first one jumps", "class 1 0; field 1 0 1; method 1 1 0 0; JUMP a; b: INT 1; OUT; INT 2;"
+                + "OUT; RETURN; a: READ 0 0; ZERO b; JUMP a");
     }
 }

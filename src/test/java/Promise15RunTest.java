@@ -8,6 +8,8 @@ public final class Promise15RunTest {
         jumps();
         fieldsAndObjects();
         callsAndSends();
+        results();
+        tenClassesInARow();
         castsAndIs();
         traps();
         tooManyFrames();
@@ -185,9 +187,18 @@ public final class Promise15RunTest {
                 NEW 2
                 SEND 0 1
                 OUT
+                INT 41
+                INT 42
                 INT 3
                 INT 8
                 CALL 3 1
+                OUT
+                NEW 2
+                INT 6
+                INT 4
+                SEND 0 0
+                OUT
+                OUT
                 OUT
                 CALL 3 2
                 RETURN
@@ -201,7 +212,40 @@ public final class Promise15RunTest {
                 OUT
                 NULL
                 RETURN
-                """, 3, "0", "7 7 -7 7 5 8 77");
+                """, 3, "0", "7 7 -7 7 5 8 -2 42 41 77");
+    }
+
+    /** A RESULT comes to the one below, nothing comes of a METHOD without one; what else is on its stack goes. */
+    private static void results() {
+        String source = "class 1 0; field 1 0 1; method 1 1 0 0; INT 20; CALL 0 1; SUB; OUT; RETURN;"
+                + "method 2 1 1 0; INT 5; CALL 0 2; READ 0 0; ZERO a; TRAP; a: INT 7; RETURN;"
+                + "method 3 1 0 0; INT 1; INT 2; INT 3; READ 0 0; ZERO b; TRAP; b: RETURN";
+        ShrinkHouse x = ran(source, 0, "0", "13");
+        Kit.due("the most frames", x.result(6), 3);
+        // an ENTRY's RESULT goes with it
+        ran("class 1 0; method 1 1 1 0; INT 1; OUT; INT 20; RETURN", 0, "0", "1");
+    }
+
+    /** Each CLASS has six FIELDS of its own; the METHOD of the topmost one is found from the lowest one on. */
+    private static void tenClassesInARow() {
+        StringBuilder text = new StringBuilder();
+        for (int c = 0; c < 10; c++) {
+            text.append("class 1 ").append(c).append(';');
+            for (int k = 0; k < 6; k++) {
+                text.append("field ").append(k + 1).append(" 0 0;");
+            }
+            if (c == 0) {
+                text.append("method 1 0 1 1; LOAD 0; GET 0 5; RETURN;");
+            }
+        }
+        text.append("method 2 1 0 2; NEW 9; STORE 0; NEW 9; STORE 1;");
+        for (int c = 0; c < 10; c++) {
+            text.append("LOAD 0; INT ").append(c + 1).append("; PUT ").append(c).append(" 5;");
+        }
+        text.append("LOAD 1; GET 0 0; OUT; LOAD 0; SEND 0 0; OUT; LOAD 1; SEND 0 0; OUT;");
+        text.append("LOAD 0; GET 9 5; OUT; LOAD 0; GET 9 0; OUT; LOAD 0; IS 0; OUT; NEW 8; IS 9; OUT; RETURN");
+        ShrinkHouse x = ran(text.toString(), 1, "0", "0 1 0 10 0 1 0");
+        Kit.due("bound", x.made(0), 2);
     }
 
     private static void castsAndIs() {

@@ -17,6 +17,7 @@ public final class RulesTest {
         condition();
         jumpsBetween();
         order();
+        theLongestCode();
         Kit.finish();
     }
 
@@ -97,6 +98,8 @@ public final class RulesTest {
         stays("INT 6; INT 0; REM; OUT; RETURN");
         due("INT 0; INT 6; DIV; OUT; RETURN", "INT 0; OUT; RETURN", 4);
         due("INT 6; INT 0; ADD; OUT; RETURN", "INT 6; OUT; RETURN", 4);
+        due("INT 6; INT 0; SUB; OUT; RETURN", "INT 6; OUT; RETURN", 4);
+        due("INT 6; INT 0; MUL; OUT; RETURN", "INT 0; OUT; RETURN", 4);
     }
 
     private static void popped() {
@@ -123,6 +126,8 @@ public final class RulesTest {
         due("INT 2; INT -2; LESS a; RETURN; a: TRAP", "RETURN", 7, 1);
         due("INT -2147483648; INT 2147483647; LESS a; TRAP; a: RETURN", "RETURN", 7, 1, 2);
         stays("READ 0 0; READ 0 0; LESS a; a: RETURN");
+        stays("READ 0 0; INT 3; LESS a; a: RETURN");
+        stays("INT 3; READ 0 0; LESS a; a: RETURN");
     }
 
     private static void none() {
@@ -182,6 +187,22 @@ public final class RulesTest {
                 "READ 0 0; STORE 0; a: LOAD 0; DUP; OUT; ZERO a; RETURN", 5);
         // a jump that is not reached counts as long as it stands there
         due("INT 5; a: POP; RETURN; JUMP a", "RETURN", 1, 5);
+    }
+
+    private static void theLongestCode() {
+        int[] rules = new int[118];
+        java.util.Arrays.fill(rules, 0, 59, 4);
+        due("INT 1;" + "INT 1; ADD;".repeat(59) + "RETURN", "INT 60; RETURN", java.util.Arrays.copyOf(rules, 59));
+        java.util.Arrays.fill(rules, 1);
+        due("JUMP a;" + "TRAP;".repeat(118) + "a: RETURN", "RETURN", prepended(rules, 2));
+        due("RETURN;" + "JUMP 1;".repeat(119), "RETURN", prepended(rules, 1));
+    }
+
+    private static int[] prepended(int[] rules, int first) {
+        int[] more = new int[rules.length + 1];
+        System.arraycopy(rules, 0, more, 1, rules.length);
+        more[0] = first;
+        return more;
     }
 
     /** The first place is ahead of the least RULE. */
