@@ -29,84 +29,103 @@ public final class AlikeTest {
         int alike = 0;
         int traps = 0;
         int read = 0;
-        for (long seed = 0; seed < 1500; seed++) {
+        for (long seed = 0; seed < 1000; seed++) {
             int[] bytes = new AlikeTest(seed).program();
             if (bytes.length > 4000) {
                 continue;
             }
-            ShrinkHouse x = new ShrinkHouse();
-            Kit.feed(x, bytes);
-            if (x.read() != 0) {
+            ShrinkHouse first = new ShrinkHouse();
+            Kit.feed(first, bytes);
+            if (first.read() != 0) {
                 continue;
             }
             read++;
-            // METHODS 4, 9, 14 and 19 are ENTRIES
-            for (int c = 0; c < CLASSES; c++) {
-                Kit.due("entry", x.entry(5 * c + 4), c);
-            }
+            int budget = (int) (seed % 13);
+            State.Story story = x -> {
+                Kit.feed(x, bytes);
+                x.read();
+                // METHODS 4, 9, 14 and 19 are ENTRIES
+                for (int c = 0; c < CLASSES; c++) {
+                    x.entry(5 * c + 4);
+                }
+                Kit.shrink(x, budget);
+            };
             for (int round = 0; round < 2; round++) {
                 String name = "seed " + seed + " round " + round;
-                Kit.due(name, Kit.shrink(x, round == 0 ? (int) (seed % 13) : 12), Integer.toString(x.size(true, 4)));
                 for (int e = 0; e < CLASSES; e++) {
-                    int how = compare(x, e, name + " entry " + e);
+                    int how = compare(story, e, name + " entry " + e);
                     alike += how >= 0 ? 1 : 0;
                     traps += how == 1 ? 1 : 0;
                 }
-                checkAgain(x, name);
+                checkAgain(story, name, new Random(seed));
+                State.Story before = story;
+                story = x -> {
+                    before.tell(x);
+                    x.again();
+                    Kit.shrink(x, 12);
+                };
             }
         }
         System.out.println("  " + read + " programs, " + alike + " runs alike, " + traps + " of them with a trap");
-        Kit.due("enough programs", read > 1000, true);
+        Kit.due("enough programs", read > 700, true);
         Kit.due("enough traps", traps > 1000, true);
-        Kit.due("enough runs without a trap", alike - traps > 1000, true);
+        Kit.due("enough runs without a trap", alike - traps > 700, true);
         Kit.finish();
     }
 
+    private static ShrinkHouse told(State.Story story) {
+        ShrinkHouse x = new ShrinkHouse();
+        story.tell(x);
+        return x;
+    }
+
     /** How both ended, or NONE where the document does not say that they are alike. */
-    private static int compare(ShrinkHouse x, int e, String name) {
+    private static int compare(State.Story story, int e, String name) {
+        ShrinkHouse x = told(story);
         int how = x.run(false, e, 20000);
         int trap = x.result(2);
-        int objects = x.result(5);
-        int count = x.result(3);
-        String outputs = Kit.outputs(x);
         String trace = Kit.traces(x);
         Kit.due(name + " back of the program", Kit.backs(x), trace);
-        int small = x.run(true, e, 20000);
-        if (how == 2 || small == 2 || trap == 5 || x.result(2) == 5) {
+        ShrinkHouse y = told(story);
+        int small = y.run(true, e, 20000);
+        if (how == 2 || small == 2 || trap == 5 || y.result(2) == 5) {
             return Kit.NONE;
         }
         Kit.due(name + " how", small, how);
-        Kit.due(name + " trap", x.result(2), trap);
-        Kit.due(name + " objects", x.result(5), objects);
-        Kit.due(name + " outputs", x.result(3), count);
-        Kit.due(name + " outputs", Kit.outputs(x), outputs);
-        Kit.due(name + " trace told back", Kit.backs(x), trace);
+        Kit.due(name + " trap", y.result(2), trap);
+        Kit.due(name + " objects", y.result(5), x.result(5));
+        Kit.due(name + " outputs", y.result(3), x.result(3));
+        Kit.due(name + " outputs", Kit.outputs(y), Kit.outputs(x));
+        Kit.due(name + " trace told back", Kit.backs(y), trace);
         return how;
     }
 
-    private static void checkAgain(ShrinkHouse x, String name) {
-        int[] small = Kit.outs(x);
+    /** What again() makes of the small program is what read() makes of its bytes, as far as these fit on the TAPE. */
+    private static void checkAgain(State.Story story, String name, Random random) {
+        int[] small = State.outs(story);
+        ShrinkHouse x = told(story);
         int[] sizes = new int[5];
         for (int what = 0; what < 5; what++) {
             sizes[what] = x.size(true, what);
         }
+        Kit.due(name + " bytes", small.length, sizes[4]);
         Kit.due(name + " again", x.again(), true);
-        ShrinkHouse y = new ShrinkHouse();
-        boolean fits = small.length <= 4000;
-        if (fits) {
-            Kit.feed(y, small);
-            Kit.due(name + " read() of the small one", y.read(), 0);
-        }
         for (int what = 0; what < 5; what++) {
             Kit.due(name + " size", x.size(false, what), sizes[what]);
         }
-        for (int m = 0; m < 20 && fits; m++) {
-            for (int i = 0; x.type(m, i, 0) != Kit.NONE; i += 1 + i / 8) {
-                for (int what = 0; what < 40; what++) {
-                    Kit.due(name + " type", x.type(m, i, what), y.type(m, i, what));
-                }
-                Kit.due(name + " all is reached, but in shells", x.type(m, i, 0), 1);
-            }
+        if (small.length > 4000) {
+            return;
+        }
+        ShrinkHouse y = new ShrinkHouse();
+        Kit.feed(y, small);
+        Kit.due(name + " read() of the small one", y.read(), 0);
+        for (int n = 0; n < 200; n++) {
+            int m = random.nextInt(sizes[2]);
+            int i = random.nextInt(random.nextBoolean() ? 8 : 60);
+            int what = random.nextInt(4) == 0 ? 0 : random.nextInt(4) == 0 ? 30 + random.nextInt(4) : 10 + random.nextInt(8);
+            int type = x.type(m, i, what);
+            Kit.due(name + " type", type, y.type(m, i, what));
+            Kit.due(name + " all is reached", what != 0 || type != 0, true);
         }
     }
 

@@ -12,15 +12,16 @@ public final class AnyArgumentsTest {
 
     private final Random random;
     private final ShrinkHouse x = new ShrinkHouse();
+    private int calls = 0;
 
     private AnyArgumentsTest(long seed) {
         random = new Random(seed);
     }
 
     public static void main(String[] args) {
-        for (long seed = 0; seed < 400; seed++) {
+        for (long seed = 0; seed < 2000; seed++) {
             AnyArgumentsTest test = new AnyArgumentsTest(seed);
-            for (int n = 0; n < 512; n++) {
+            while (test.calls < 500) {
                 test.call(seed);
             }
         }
@@ -33,6 +34,8 @@ public final class AnyArgumentsTest {
 
     private void call(long seed) {
         int which = random.nextInt(22);
+        // feedSome() makes some ten calls
+        calls += which == 0 ? 10 : 1;
         try {
             switch (which) {
                 case 0:

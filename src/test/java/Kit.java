@@ -149,6 +149,26 @@ final class Kit {
         due("end(" + bytes.length + ")", x.end(bytes.length), true);
     }
 
+    /** What read() of a new object answers to these bytes, and what fault() tells of it then. */
+    static ShrinkHouse dueFault(String what, int[] bytes, int number, int first, int second, int third) {
+        ShrinkHouse x = new ShrinkHouse();
+        feed(x, bytes);
+        due(what + ": read()", x.read(), number);
+        due(what + ": fault(0)", x.fault(0), number);
+        due(what + ": fault(1)", x.fault(1), first);
+        due(what + ": fault(2)", x.fault(2), second);
+        due(what + ": fault(3)", x.fault(3), third);
+        return x;
+    }
+
+    static ShrinkHouse dueFault(String source, int number, int first, int second, int third) {
+        return dueFault(source, bytes(source), number, first, second, third);
+    }
+
+    static ShrinkHouse dueNoFault(String source) {
+        return dueFault(source, 0, NONE, NONE, NONE);
+    }
+
     static int read(ShrinkHouse x, String source) {
         feed(x, bytes(source));
         return x.read();
@@ -194,9 +214,40 @@ final class Kit {
         due(what, Arrays.toString(outs(x)), Arrays.toString(bytes(source)));
     }
 
+    /** A program of which one ENTRY is named, and from which the small one is made. */
+    static ShrinkHouse shrunk(String source, int entry, int budget) {
+        ShrinkHouse x = house(source);
+        due("entry(" + entry + ")", x.entry(entry), 0);
+        due("shrink(" + budget + ")", shrink(x, budget), Integer.toString(x.size(true, 4)));
+        return x;
+    }
+
+    static int[] joined(int[]... rows) {
+        List<Integer> all = new ArrayList<>();
+        for (int[] row : rows) {
+            for (int value : row) {
+                all.add(value);
+            }
+        }
+        int[] one = new int[all.size()];
+        for (int i = 0; i < one.length; i++) {
+            one[i] = all.get(i);
+        }
+        return one;
+    }
+
+    static int[] repeated(int many, int... row) {
+        int[] all = new int[many * row.length];
+        for (int i = 0; i < all.length; i++) {
+            all[i] = row[i % row.length];
+        }
+        return all;
+    }
+
     static String outputs(ShrinkHouse x) {
         StringBuilder text = new StringBuilder();
-        for (int i = 0; i < x.result(3); i++) {
+        int kept = Math.min(100, x.result(3));
+        for (int i = 0; i < kept; i++) {
             text.append(i == 0 ? "" : " ").append(x.output(i));
         }
         return text.toString();

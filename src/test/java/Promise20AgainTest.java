@@ -39,7 +39,6 @@ public final class Promise20AgainTest {
         Kit.due("the program stays", x.size(false, 2), 5);
         Kit.due("the ENTRIES stay", x.entry(1), 1);
         Kit.shrink(x, 0);
-        int[] small = Kit.outs(x);
         x.feed(1, 2, 3, 4, 5);
         Kit.due("again", x.again(), true);
         Kit.due("the TAPE stays", x.end(20), true);
@@ -47,7 +46,6 @@ public final class Promise20AgainTest {
         Kit.due("no run", x.result(0), Kit.NONE);
         Kit.due("no small one", x.size(true, 0), 0);
         Kit.due("no small one", x.again(), false);
-        sameAsRead(x, small);
         Kit.due("the first ENTRY", x.entry(1), 0);
         Kit.due("the second ENTRY", x.entry(0), 1);
         Kit.due("run", Kit.run(x, false, 0, 100), "0");
@@ -55,31 +53,26 @@ public final class Promise20AgainTest {
         Kit.due("run", Kit.run(x, false, 1, 100), "0");
         Kit.due("outputs", Kit.outputs(x), "3");
         once(x);
+        sameAsRead();
         Kit.finish();
     }
 
     /** All that is told of the program is as read() of its bytes has it. */
-    private static void sameAsRead(ShrinkHouse x, int[] bytes) {
-        ShrinkHouse y = new ShrinkHouse();
-        Kit.feed(y, bytes);
-        Kit.due("read()", y.read(), 0);
-        for (int what = 0; what < 5; what++) {
-            Kit.due("size", x.size(false, what), y.size(false, what));
-        }
-        for (int c = 0; c < 3; c++) {
-            for (int m = 0; m < 9; m++) {
-                for (int what = 0; what < 7; what++) {
-                    Kit.due("method", x.method(false, c, m, what), y.method(false, c, m, what));
-                }
-            }
-        }
-        for (int m = 0; m < 5; m++) {
-            for (int i = 0; i < 6; i++) {
-                for (int what = 0; what < 40; what++) {
-                    Kit.due("type", x.type(m, i, what), y.type(m, i, what));
-                }
-            }
-        }
+    private static void sameAsRead() {
+        State.Story shrunk = x -> {
+            Kit.read(x, SOURCE);
+            x.entry(2);
+            x.entry(1);
+            Kit.shrink(x, 0);
+        };
+        int[] small = State.outs(shrunk);
+        State.Story read = x -> {
+            Kit.feed(x, small);
+            Kit.due("read()", x.read(), 0);
+            x.entry(1);
+            x.entry(0);
+        };
+        State.dueSame("again() and read()", State.of(read), State.of(State.then(shrunk, ShrinkHouse::again)));
     }
 
     /** From the small program a smaller one is made; its ORIGIN is in the small one. */
