@@ -101,14 +101,51 @@ public final class EdgeCallsTest {
 
     /** Promise 4: "and that is the program: without ENTRIES, a small one, a run": at each time as of a new object. */
     private static void aProgramBeginsAnew() {
-        State.Story other = x -> {
-            x.end(0);
-            Kit.read(x, "class 9 0; field 8 1 1; method 7 1 0 2; INT 9; OUT; TRAP; method 6 1 1 0; INT 1; RETURN; class 8 1");
-        };
-        Map<String, String> due = State.of(other);
-        for (Map.Entry<String, State.Story> stage : Stages.all().entrySet()) {
-            State.dueSame("another program after " + stage.getKey(), due, State.of(State.then(stage.getValue(), other)));
+        State.Story other = x -> Kit.read(x, "class 9 0; field 8 1 1; method 7 1 0 2; INT 9; OUT; TRAP; method 6 1 1 0; INT 1;"
+                + "RETURN; class 8 1");
+        for (State.Story later : new State.Story[] {other, Stages::program, Stages::ran, Stages::ranSmall, Stages::again}) {
+            Map<String, String> due = State.of(later);
+            Map<String, State.Story> stages = Stages.all();
+            stages.put("all there is room for", Stages::full);
+            for (Map.Entry<String, State.Story> stage : stages.entrySet()) {
+                State.Story both = x -> {
+                    stage.getValue().tell(x);
+                    x.end(0);
+                    later.tell(x);
+                };
+                State.dueSame("another program after " + stage.getKey(), due, State.of(both), "fault", "tape");
+            }
         }
+        nothingOfAGreaterOne();
+    }
+
+    /** What a program has not is not there, though the one before it had it. */
+    private static void nothingOfAGreaterOne() {
+        ShrinkHouse x = new ShrinkHouse();
+        Stages.full(x);
+        Kit.due("read()", Kit.read(x, "class 1 0; method 1 1 0 0; CALL 0 1; RETURN; method 2 1 0 0; NEW 0; POP; RETURN"), 0);
+        for (int m : new int[] {2, 3, 7, 8, 15, 79}) {
+            Kit.due("no METHOD " + m, x.entry(m), Kit.NONE);
+            Kit.due("no METHOD " + m, x.type(m, 0, 0), Kit.NONE);
+            Kit.due("no METHOD " + m, x.method(false, 0, m, 0), Kit.NONE);
+        }
+        Kit.due("no CLASS 1", x.method(false, 1, 0, 0), Kit.NONE);
+        Kit.due("no instruction 2", x.type(0, 2, 0), Kit.NONE);
+        Kit.due("entry(0)", x.entry(0), 0);
+        Kit.shrink(x, 12);
+        Kit.due("no CLASS 1", x.kept(0, 1, 0), Kit.NONE);
+        Kit.due("no FIELD", x.kept(1, 0, 0), Kit.NONE);
+        Kit.due("no METHOD 2", x.kept(2, 0, 2), Kit.NONE);
+        Kit.due("no METHOD 1", x.origin(1, 0, 0), Kit.NONE);
+        Kit.due("no instruction 3", x.origin(0, 3, 0), Kit.NONE);
+        // the stack that was ten high behind where the LEAF ends now does not count
+        x = new ShrinkHouse();
+        Stages.full(x);
+        Kit.due("read()", Kit.read(x, "class 1 0; method 1 1 0 0; NULL; CALL 0 1; RETURN; method 2 1 0 0;"
+                + "NEW 0; POP;".repeat(3) + "NEW 0; IS 0; POP; RETURN"), 0);
+        Kit.due("entry(0)", x.entry(0), 0);
+        Kit.shrink(x, 12);
+        Kit.due("put in", x.made(1), 1);
     }
 
     /** Promise 5: "(0 without, or ahead of any)", "NONE without (2, 3 also of FAULT 1), or for another what" */
@@ -508,6 +545,7 @@ public final class EdgeCallsTest {
             };
             State.dueSame("again() and read()", State.of(read), State.of(again));
         }
+        typesAfterAgain();
         // "(the TAPE and fault() stay)"
         Map<String, String> before = State.of(Stages::faulty);
         Map<String, String> after = State.of(State.then(Stages::faulty, ShrinkHouse::again));
@@ -519,6 +557,25 @@ public final class EdgeCallsTest {
         Kit.due("no small one", after.get("size true 0"), "0");
         Kit.due("no run", after.get("result 0"), "-1");
         Kit.due("nothing put out", after.get("output"), "");
+    }
+
+    /** Each question is the first one behind again(), and types were asked of the program ahead of it. */
+    private static void typesAfterAgain() {
+        int[] heights = {0, 1, 0, 1, 2, 1, 0, 1, 2, 1, 0};
+        for (int i = 0; i < heights.length; i++) {
+            ShrinkHouse x = shrunk();
+            Kit.due("UNSET", x.type(1, 0, 12), Kit.NONE);
+            Kit.due("INT", x.type(1, 0, 10), 1);
+            Kit.due("again()", x.again(), true);
+            Kit.due("how many on the stack at " + i, x.type(0, i, 1), heights[i]);
+        }
+        ShrinkHouse x = shrunk();
+        Kit.due("no local of METHOD 0", x.type(0, 0, 10), Kit.NONE);
+        Kit.due("on the stack of METHOD 0", x.type(0, 1, 30), 1);
+        Kit.due("again()", x.again(), true);
+        Kit.due("local 0 of METHOD 0", x.type(0, 6, 10), 1);
+        Kit.due("on the stack of METHOD 0", x.type(0, 1, 30), 1);
+        Kit.due("local 1, which is UNSET at first", x.type(0, 0, 11), 0);
     }
 
     /** A small program is made of the small one, as often as wished: it becomes no smaller in the end. */
@@ -533,6 +590,14 @@ public final class EdgeCallsTest {
         }
         Kit.due("no smaller", Kit.shrink(x, 12), last);
         Kit.due("no RULE", x.made(2), 0);
+        // what was not reached in the program stands in no way of what is there now
+        x = Kit.shrunk("class 1 0; method 1 1 0 0; NEW 0; JUMP a; TRAP; a: POP; CALL 0 1; RETURN; method 2 1 0 0; TRAP", 0, 0);
+        for (int n = 0; n < 4; n++) {
+            Kit.due("METHODS", x.size(true, 2), 2);
+            Kit.due("instructions", x.size(true, 3), 5);
+            Kit.due("again()", x.again(), true);
+            Kit.shrink(x, 0);
+        }
         // six ENTRIES in their order
         ShrinkHouse y = new ShrinkHouse();
         Stages.six(y);

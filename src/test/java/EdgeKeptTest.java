@@ -68,6 +68,8 @@ public final class EdgeKeptTest {
         dueClasses("behind RETURN", shrunk("", "RETURN; NEW 0; CAST 1; IS 2; POP; READ 2 1; CALL 2 0"), 4);
         dueClasses("a FIELD that is not told", shrunk("field 1 4 1; field 2 1 0;", "RETURN"), 4);
         dueClasses("a METHOD that is not REACHED", shrunk("", "RETURN; method 2 1 5 3 1 2 3; NEW 0; POP; NULL; RETURN"), 4);
+        dueClasses("the next METHOD's PARAM", shrunk("", "INT 1; INT 1; INT 1; CALL 4 1; RETURN; method 2 1 0 3 0 0 0; RETURN;"
+                + "method 3 1 0 3 4 4 4; RETURN"), 4);
         dueClasses("RULES took it", shrunk("", "INT 1; ZERO a; RETURN; a: NEW 3; CALL 2 0; RETURN"), 4);
         dueClasses("a CLASS below", shrunk("", "NEW 0; POP; RETURN"), 0, 4);
         // the code of a SHELL is gone, with what it tells

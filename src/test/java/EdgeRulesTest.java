@@ -179,6 +179,10 @@ public final class EdgeRulesTest {
         due("READ 0 0; STORE 1; LOAD 1; POP; RETURN", "READ 0 0; POP; RETURN", 5, 10);
         due("READ 0 0; STORE 1; LOAD 1; STORE 1; RETURN", "READ 0 0; POP; RETURN", 11, 10);
         due("READ 0 0; STORE 1; RETURN; LOAD 1", "READ 0 0; POP; RETURN", 1, 10);
+        // the first instruction of all may be that LOAD
+        ShrinkHouse y = Kit.shrunk("class 1 0; field 1 0 1; method 1 1 0 0; INT 1; CALL 0 1; RETURN; method 2 1 0 1 0; LOAD 0;"
+                + "OUT; READ 0 0; STORE 0; RETURN", 0, 0);
+        Kit.due("it is loaded", y.made(2), 0);
         // a PARAM, too
         ShrinkHouse x = Kit.shrunk("class 1 0; field 1 0 1; method 1 1 0 0; INT 1; CALL 0 1; RETURN; method 2 1 0 1 0;"
                 + "READ 0 0; STORE 0; RETURN", 0, 0);

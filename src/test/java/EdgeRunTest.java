@@ -267,6 +267,11 @@ public final class EdgeRunTest {
         x = house("class 1 0; method 1 1 0 0; RETURN", 0);
         Kit.due("run", Kit.run(x, false, 0, 20000), "0");
         Kit.due("one at first", x.result(6), 1);
+        // the most there were, not the last ones
+        x = house("class 1 0; method 1 1 0 0; CALL 0 1; NEW 0; POP; CALL 0 2; RETURN; method 2 1 0 0; CALL 0 2; CALL 0 2; RETURN;"
+                + "method 3 1 0 0; RETURN", 0);
+        Kit.due("run", Kit.run(x, false, 0, 20000), "0");
+        Kit.due("the most FRAMES", x.result(6), 3);
     }
 
     private static String objects(int many) {

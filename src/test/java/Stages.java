@@ -93,6 +93,38 @@ final class Stages {
         Kit.run(x, true, 3, 100);
     }
 
+    /**
+     * Programs with as many of all as there is room for were read, shrunk and run: their rows may not be seen later. It
+     * has more than half of the calls that an object is used for.
+     */
+    static void full(ShrinkHouse x) {
+        StringBuilder text = new StringBuilder();
+        for (int c = 0; c < 10; c++) {
+            text.append("class 255 ").append(c).append(';');
+            for (int k = 0; k < 6; k++) {
+                text.append("field ").append(255 - k).append(" 10 ").append(k % 2).append(';');
+            }
+            for (int k = 0; k < 8; k++) {
+                int name = 255 - 8 * c - k;
+                text.append(k < 7 ? "method " + name + " 0 11 20 10 10 10;" : "method " + name + " 1 0 20;");
+                text.append("NULL;".repeat(10)).append("JUMP 12; TRAP; STORE 19; POP; POP; RETURN; TRAP; TRAP;");
+            }
+        }
+        int[] bytes = Kit.bytes(text.toString());
+        for (int n = 0; n < 2; n++) {
+            Kit.feed(x, bytes);
+            Kit.due("read()", x.read(), 0);
+        }
+        for (int c = 0; c < 6; c++) {
+            Kit.due("entry", x.entry(8 * c + 7), c);
+        }
+        Kit.shrink(x, 12);
+        Kit.run(x, true, 5, 100);
+        Kit.due("again()", x.again(), true);
+        Kit.shrink(x, 0);
+        Kit.run(x, true, 0, 3);
+    }
+
     static Map<String, State.Story> all() {
         Map<String, State.Story> all = new LinkedHashMap<>();
         all.put("new", x -> {
