@@ -3,9 +3,11 @@ public final class EdgeKeptTest {
     public static void main(String[] args) {
         eachReasonAlone();
         noReason();
+        toldInWhatIsLeftOut();
         allAbove();
         foundOnceMore();
         fieldsThatAreTold();
+        methodsOfOneName();
         shells();
         whatShellsTell();
         sendsOfWhatIsReached();
@@ -76,6 +78,29 @@ public final class EdgeKeptTest {
         dueClasses("a SHELL's code", shrunk("", "NULL; SEND 4 1; RETURN; method 2 0 0 9; NEW 3; CAST 0; READ 0 1; TRAP"), 4);
     }
 
+    /** "told in such a code": what a METHOD tells that is REACHED at first, and not of the codes as they are then, is none. */
+    private static void toldInWhatIsLeftOut() {
+        String[] told = {"NEW 3; POP", "NULL; CAST 3; POP", "NULL; IS 3; POP", "READ 0 1; POP", "INT 1; WRITE 0 1",
+            "NULL; GET 0 0; POP", "NULL; INT 1; PUT 0 0", "CALL 2 0", "NULL; INT 1; NULL; SEND 2 1; POP",
+            "NULL; INT 1; NULL; CALL 2 1; POP"};
+        for (String code : told) {
+            String left = "method 2 1 0 0;" + code + "; RETURN";
+            // RULES take the way to it
+            ShrinkHouse x = shrunk("", "INT 1; ZERO a; RETURN; a: CALL 4 1; RETURN;" + left);
+            dueClasses("left out: " + code, x, 4);
+            Kit.due("METHODS", x.size(true, 2), 1);
+            Kit.due("FIELDS", x.size(true, 1), 0);
+            Kit.due("SHELLS", x.made(3), 0);
+            // a METHOD between them is left out, too
+            x = shrunk("", "INT 1; ZERO a; RETURN; a: CALL 4 2; RETURN;" + left + "; method 3 1 0 0; CALL 4 1; RETURN");
+            dueClasses("left out behind another one: " + code, x, 4);
+            // there is another way to it
+            x = shrunk("", "INT 1; ZERO a; READ 0 1; ZERO b; a: RETURN; b: CALL 4 1; RETURN;" + left);
+            Kit.due("not left out: " + code, x.kept(2, 4, 1), 1);
+            Kit.due("METHODS", x.size(true, 2) >= 2, true);
+        }
+    }
+
     /** "and all above these": of the lowest one of ten */
     private static void allAbove() {
         StringBuilder row = new StringBuilder();
@@ -128,6 +153,26 @@ public final class EdgeKeptTest {
         ShrinkHouse x = Kit.shrunk(six + "READ 0 5; WRITE 0 4; READ 0 3; WRITE 0 2; READ 0 1; WRITE 0 0; RETURN", 0, 0);
         for (int k = 0; k < 6; k++) {
             Kit.due("all of them, FIELD " + k, x.kept(1, 0, k), k);
+        }
+        // of the told CLASS alone, not of those above and below with that number or NAME, be they LIVE
+        x = Kit.shrunk("class 1 0; field 7 0 0; field 8 0 0; class 2 1; field 8 0 0; field 7 0 0; class 3 2; field 7 0 0;"
+                + "field 8 0 0; method 1 1 0 0; NEW 2; GET 1 0; OUT; NEW 0; POP; NEW 1; POP; RETURN", 0, 0);
+        Kit.due("FIELDS", x.size(true, 1), 1);
+        Kit.due("the told one", x.kept(1, 1, 0), 0);
+    }
+
+    /** A METHOD is no reason for one with its NAME above or below that nobody means. */
+    private static void methodsOfOneName() {
+        String three = "class 1 0; method 5 0 0 1; INT 1; OUT; RETURN; class 2 1; method 5 0 0 1; INT 2; OUT; RETURN; class 3 2;"
+                + "method 5 0 0 1; INT 3; OUT; RETURN; class 4 0; method 1 1 0 0;";
+        for (int c = 0; c < 3; c++) {
+            for (String op : new String[] {"SEND", "CALL"}) {
+                ShrinkHouse x = Kit.shrunk(three + "NEW " + c + ";" + op + " " + c + " 0; RETURN", 3, 0);
+                for (int k = 0; k < 3; k++) {
+                    Kit.due(op + " of " + c + ": METHOD of " + k, x.kept(2, k, 0), k == c ? 0 : Kit.NONE);
+                }
+                Kit.due("METHODS", x.size(true, 2), 2);
+            }
         }
     }
 

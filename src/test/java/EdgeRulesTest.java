@@ -27,7 +27,7 @@ public final class EdgeRulesTest {
     }
 
     /** The code becomes another one, by so many of each of the RULES told. */
-    private static ShrinkHouse due(String code, String made, int... rules) {
+    static ShrinkHouse due(String code, String made, int... rules) {
         ShrinkHouse x = Kit.shrunk(HEAD + code, 0, 0);
         boolean first = made.contains(" 0 0");
         boolean second = made.contains(" 0 1");
@@ -45,7 +45,7 @@ public final class EdgeRulesTest {
         return x;
     }
 
-    private static void stays(String code) {
+    static void stays(String code) {
         due(code, code);
     }
 

@@ -30,6 +30,8 @@ public final class EdgeStackTest {
         fourAheadOfFive();
         fourAndFiveAheadOfSeven();
         sevenAheadOfSix();
+        anotherNumberBehindIt();
+        eachOfThemFits();
         Kit.finish();
     }
 
@@ -149,5 +151,37 @@ public final class EdgeStackTest {
     private static void sevenAheadOfSix() {
         due("INT 1; INT 1; ZERO 0", 7, 2);
         due("INT 1; INT 1; ZERO 0; TRAP", 6, 2);
+    }
+
+    /** "6 if it has another number on the stack", told with the one that is looked at: of each OP that goes on or jumps */
+    private static void anotherNumberBehindIt() {
+        for (String[] row : TAKES) {
+            // the last one is reached at 1, with nothing on the stack
+            due("READ 0 1; ZERO n; NULL;" + joined(row, 1) + row[0] + "; n: TRAP", 6, row.length + 2);
+        }
+        for (String op : new String[] {"INT 1", "NULL", "NEW 0", "READ 0 1", "CALL 0 2"}) {
+            due("READ 0 1; ZERO n;" + op + "; n: TRAP", 6, 2);
+        }
+        due("INT 1; STORE 0; READ 0 1; ZERO n; LOAD 0; n: TRAP", 6, 4);
+        due("READ 0 1; ZERO n; NULL; JUMP n; TRAP; n: TRAP", 6, 3);
+        due("READ 0 1; ZERO n; NULL; INT 1; ZERO n; TRAP; n: TRAP", 6, 4);
+        due("READ 0 1; ZERO n; NULL; INT 1; INT 1; LESS n; TRAP; n: TRAP", 6, 5);
+        due("READ 0 1; ZERO n; NULL; NULL; NONE n; TRAP; n: TRAP", 6, 4);
+    }
+
+    /** "4 one of them .. does not fit": of each OP each one of those that it takes, an INT for a REF and a REF for an INT */
+    private static void eachOfThemFits() {
+        for (String[] row : TAKES) {
+            boolean any = row[0].startsWith("STORE") || row[0].equals("POP") || row[0].equals("DUP");
+            for (int k = 1; k < row.length; k++) {
+                String[] wrong = row.clone();
+                wrong[k] = row[k].equals("NULL") ? "INT 1" : "NULL";
+                if (any) {
+                    Kit.dueNoFault(HEAD + joined(wrong, 1) + row[0] + "; TRAP");
+                } else {
+                    due(joined(wrong, 1) + row[0] + "; TRAP", 4, row.length - 1);
+                }
+            }
+        }
     }
 }

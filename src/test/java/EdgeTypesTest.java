@@ -21,6 +21,8 @@ public final class EdgeTypesTest {
         fittingAnInt();
         fittingAClass();
         fittingARef();
+        fittingWhatIsTold();
+        whatACastGives();
         fittingAnything();
         eachOfThemMustFit();
         meetingInLocals();
@@ -31,6 +33,7 @@ public final class EdgeTypesTest {
         anotherNumberOnTheStack();
         roundsUntilNothingChanges();
         rounds();
+        fiftyRounds();
         methodsByNumber();
         Kit.finish();
     }
@@ -102,6 +105,45 @@ public final class EdgeTypesTest {
             dueFitting(type, "IS 3", !type.equals("INT"));
             dueFitting(type, "CAST 3", !type.equals("INT"));
             dueFitting(type, "NONE last; last: TRAP", !type.equals("INT"));
+        }
+    }
+
+    /** "that CLASS": of what is told, for each OP that takes an object, and of its TYPE for a FIELD that is PUT */
+    private static void fittingWhatIsTold() {
+        String head = "class 1 0; class 2 1; field 1 2 0; method 1 0 0 1; TRAP; class 3 2; class 4 0; field 1 0 1; method 2 1 0 0;";
+        String[] types = {"NEW 0", "NEW 1", "NEW 2", "NEW 3", "NULL", "INT 1"};
+        boolean[] fits = {false, true, true, false, true, false};
+        for (int k = 0; k < types.length; k++) {
+            int bad = fits[k] ? 0 : 4;
+            for (String op : new String[] {"GET 1 0", "CALL 1 0", "SEND 1 0"}) {
+                dueAt(head + types[k] + ";" + op + "; TRAP", bad, 1);
+            }
+            dueAt(head + types[k] + "; NULL; PUT 1 0; TRAP", bad, 2);
+            dueAt(head + "NEW 1;" + types[k] + "; PUT 1 0; TRAP", bad, 2);
+        }
+        String any = "READ 3 0; ZERO a; NEW 0; JUMP b; a: NEW 3; b: ";
+        for (String op : new String[] {"GET 1 0", "CALL 1 0", "SEND 1 0"}) {
+            dueAt(head + any + op + "; TRAP", 4, 5);
+        }
+        dueAt(head + any + "NULL; PUT 1 0; TRAP", 4, 6);
+    }
+
+    private static void dueAt(String source, int number, int place) {
+        if (number == 0) {
+            Kit.dueNoFault(source);
+        } else {
+            Kit.dueFault(source, number, 3, 0, place);
+        }
+    }
+
+    /** "CAST class: REF . that CLASS": whatever was there, be it narrower */
+    private static void whatACastGives() {
+        for (String type : TYPES) {
+            for (int c = 0; c < 5 && !type.equals("INT"); c++) {
+                String code = making(type, "x") + "CAST " + c + "; TRAP";
+                ShrinkHouse x = Kit.dueNoFault(HEAD + "method 1 1 0 0;" + code);
+                Kit.due(type + " CAST " + c, x.type(0, instructions(code), 30), 4 + c);
+            }
         }
     }
 
@@ -298,6 +340,35 @@ public final class EdgeTypesTest {
         Kit.dueFault(head + "JUMP c; a: POP; TRAP; b: READ 0 0; ZERO a; POP; TRAP; c: READ 0 0; ZERO a; JUMP b", 3, 4, 0,
                 1);
         Kit.dueFault(head + "JUMP b; a: POP; TRAP; b: READ 0 0; ZERO a; POP; TRAP", 3, 4, 0, 5);
+    }
+
+    /**
+     * "A round in which no state changes is the METHOD's last one": each of fifty jumps goes to the one ahead of it, so a
+     * change at the end is at the beginning in the fiftieth ROUND; in a local alone, and on the stack alone.
+     */
+    private static void fiftyRounds() {
+        String head = HEAD + "method 1 1 0 1;";
+        ShrinkHouse x = Kit.dueNoFault(head + "NEW 1; STORE 0;" + chain("", 2) + "NEW 4; STORE 0; JUMP 100");
+        for (int i = 2; i < 103; i++) {
+            Kit.due("local at " + i, x.type(0, i, 10), 3);
+        }
+        Kit.due("local at 104", x.type(0, 104, 10), 4 + 4);
+        x = Kit.dueNoFault(head + "NEW 1; JUMP 2;" + chain("", 2) + "POP; NEW 4; JUMP 100");
+        for (int i = 2; i < 103; i++) {
+            Kit.due("stack at " + i, x.type(0, i, 30), 3);
+        }
+        // not before the change is there the one at 3 does not find what it takes
+        Kit.dueFault(head + "NEW 1; STORE 0;" + chain("LOAD 0; WRITE 0 2;", 4) + "NEW 4; STORE 0; JUMP 102", 4, 4, 0, 3);
+        Kit.dueFault(head + "NEW 1; JUMP 2;" + chain("DUP; WRITE 0 2;", 4) + "POP; NEW 4; JUMP 102", 4, 4, 0, 3);
+    }
+
+    /** Fifty jumps, each behind the READ of its own; from the second one on they go to the READ of the one ahead. */
+    private static String chain(String code, int firstRead) {
+        StringBuilder chain = new StringBuilder(code + "READ 0 0; ZERO 2; READ 0 0; ZERO 2;");
+        for (int n = 2; n < 50; n++) {
+            chain.append("READ 0 0; ZERO ").append(firstRead + 2 * (n - 1)).append(';');
+        }
+        return chain.toString();
     }
 
     /** "METHODS by number": all ROUNDS of one ahead of the next one. */

@@ -58,7 +58,10 @@ public final class Promise12KeptTest {
         int[] classes = {0, 1, 2, 3, 4, 5, 6, Kit.NONE, Kit.NONE};
         for (int c = 0; c < classes.length; c++) {
             Kit.due("kept(0, " + c + ", 0)", x.kept(0, c, 0), classes[c]);
-            Kit.due("kept(0, " + c + ", 77)", x.kept(0, c, 77), classes[c]);
+            // "sort 0 CLASS c": whatever k is
+            for (int k : new int[] {77, -1, Integer.MAX_VALUE, Integer.MIN_VALUE}) {
+                Kit.due("kept(0, " + c + ", " + k + ")", x.kept(0, c, k), classes[c]);
+            }
         }
         Kit.due("field of 0", x.kept(1, 0, 0), Kit.NONE);
         int[] fields = {Kit.NONE, 0, Kit.NONE, Kit.NONE};

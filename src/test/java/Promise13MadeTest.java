@@ -45,7 +45,39 @@ public final class Promise13MadeTest {
         dueAll(x, 1, 0, 5, 1, rules);
         x.again();
         dueAll(x, 0, 0, 0, 0, new int[13]);
+        inAMethodThatIsNotKept();
+        inALeaf();
         Kit.finish();
+    }
+
+    /** What was done was done, also in the code of a METHOD that nobody reaches any more in the end. */
+    private static void inAMethodThatIsNotKept() {
+        ShrinkHouse x = Kit.shrunk("class 1 0; method 1 1 0 0; INT 1; ZERO a; RETURN; a: CALL 0 1; RETURN; method 2 1 0 1;"
+                + "NEW 0; SEND 0 2; CALL 0 3; INT 1; STORE 0; RETURN; TRAP; method 3 0 0 1; RETURN; method 4 1 0 0; INT 3; OUT;"
+                + "RETURN", 0, 3);
+        Kit.due("it is not KEPT", x.kept(2, 0, 1), Kit.NONE);
+        Kit.due("one METHOD is", x.size(true, 2), 1);
+        int[] rules = new int[13];
+        rules[6] = 1;
+        rules[10] = 1;
+        rules[5] = 1;
+        // CALL, RETURN of the ENTRY; the TRAP
+        rules[1] = 2 + 1;
+        dueAll(x, 1, 1, 6, 0, rules);
+    }
+
+    /** "whose code, so far as (a) has it": a LEAF is put in as it is ahead of RULES, and these are done at each place. */
+    private static void inALeaf() {
+        ShrinkHouse x = Kit.shrunk("class 1 0; method 1 1 0 0; CALL 0 1; CALL 0 1; RETURN; method 2 1 0 0; INT 1; POP;"
+                + "INT 3; OUT; RETURN", 0, 5);
+        int[] rules = new int[13];
+        rules[5] = 3;
+        dueAll(x, 0, 2, 3, 0, rules);
+        // by RULES it would have no more than three instructions
+        x = Kit.shrunk("class 1 0; method 1 1 0 0; CALL 0 1; CALL 0 1; RETURN; method 2 1 0 0; INT 1; POP;"
+                + "INT 3; OUT; RETURN", 0, 4);
+        rules[5] = 1;
+        dueAll(x, 0, 0, 1, 0, rules);
     }
 
     private static void dueAll(ShrinkHouse x, int bound, int putIn, int all, int shells, int[] rules) {

@@ -48,7 +48,41 @@ public final class Promise19BackTest {
         Kit.run(x, true, 1, 100);
         Kit.due("no TRAP", x.back(0), Kit.NONE);
         fortyFrames();
+        asItWas();
         Kit.finish();
+    }
+
+    /** "(as it was; shrink() and entry() leave it)": ORIGINS of another small program do not change what was told back. */
+    private static void asItWas() {
+        ShrinkHouse x = Kit.house("class 1 0; method 1 1 0 0; CALL 0 1; INT 4; OUT; INT 5; OUT; RETURN; method 2 1 0 0; INT 7;"
+                + "INT 0; DIV; OUT; RETURN; method 3 1 0 0; RETURN");
+        x.entry(0);
+        Kit.shrink(x, 12);
+        Kit.run(x, true, 0, 100);
+        dueAsItWas(x, "2", "1002 0");
+        // there 2 is an OUT of the ENTRY's own
+        Kit.shrink(x, 0);
+        dueAsItWas(x, "2", "1002 0");
+        Kit.due("a new ENTRY", x.entry(2), 1);
+        dueAsItWas(x, "2", "1002 0");
+        Kit.shrink(x, 4);
+        dueAsItWas(x, "2", "1002 0");
+        Kit.run(x, true, 0, 100);
+        dueAsItWas(x, "1002 0", "1002 0");
+        Kit.shrink(x, 12);
+        dueAsItWas(x, "1002 0", "1002 0");
+        Kit.due("shrink(13)", Kit.shrink(x, 13), "throws.IllegalArgumentException");
+        dueAsItWas(x, "1002 0", "1002 0");
+        Kit.due("a FAULT", x.read(), 1);
+        dueAsItWas(x, "1002 0", "1002 0");
+    }
+
+    private static void dueAsItWas(ShrinkHouse x, String trace, String back) {
+        Kit.due("trace", Kit.traces(x), trace);
+        Kit.due("back", Kit.backs(x), back);
+        Kit.due("result(4)", x.result(4), trace.split(" ").length);
+        Kit.due("result(7)", x.result(7), back.split(" ").length);
+        Kit.due("no more places", x.back(x.result(7)), Kit.NONE);
     }
 
     /** With what was put in, each frame but the last may be told back as one more place than it is. */
