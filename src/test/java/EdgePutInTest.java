@@ -108,6 +108,10 @@ public final class EdgePutInTest {
                 boolean fits = own + leaf <= 20;
                 Kit.due(own + " and " + leaf, x.made(1), fits ? 1 : 0);
                 Kit.due("LOCALS", x.method(true, 0, 0, 4), fits ? own + leaf : own);
+                // also if none of them is used
+                x = Kit.shrunk("class 1 0; method 1 1 0 " + own + "; CALL 0 1; RETURN; method 2 1 0 " + leaf + "; RETURN", 0, 1);
+                Kit.due(own + " and unused " + leaf, x.made(1), fits ? 1 : 0);
+                Kit.due("LOCALS", x.method(true, 0, 0, 4), fits ? own + leaf : own);
             }
         }
     }

@@ -14,6 +14,7 @@ public final class EdgeRunTest {
         trapsOfCasts();
         whatIsOfAClass();
         fortyFrames();
+        smallOnesNeedFewer();
         nullIsAheadOfFrames();
         framesComeBack();
         twoHundredObjects();
@@ -246,6 +247,27 @@ public final class EdgeRunTest {
         ShrinkHouse x = house(deep(40, "NEW 0; POP; INT 5; OUT"), 0);
         Kit.due("with 40 FRAMES", Kit.run(x, false, 0, 20000), "0");
         Kit.due("OUTPUT", Kit.outputs(x), "5");
+    }
+
+    /** "alike, as long as neither has too many frames or is cut": where a LEAF was put in there is no FRAME of it. */
+    private static void smallOnesNeedFewer() {
+        ShrinkHouse x = house(deep(40, "CALL 0 1; INT 1; CALL 0 3; OUT"), 0);
+        Kit.due("a FRAME too many", Kit.run(x, false, 0, 20000), "1");
+        Kit.due("the TRAP", x.result(2), 5);
+        Kit.shrink(x, 12);
+        Kit.due("it is put in", Kit.run(x, true, 0, 20000), "0");
+        Kit.due("the most FRAMES", x.result(6), 40);
+        Kit.due("OUTPUT", Kit.outputs(x), "1");
+        Kit.shrink(x, 1);
+        Kit.due("one of them is not", Kit.run(x, true, 0, 20000), "1");
+        Kit.due("the TRAP", x.result(2), 5);
+        x = house("class 1 0; method 1 1 0 0; INT 1; INT 2; ADD; OUT; CALL 0 1; RETURN; method 2 1 0 0; INT 7; OUT; RETURN", 0);
+        Kit.shrink(x, 3);
+        Kit.due("of nine STEPS one is missing", Kit.run(x, false, 0, 8), "2");
+        Kit.due("OUTPUT", Kit.outputs(x), "3 7");
+        Kit.due("eight are more than enough", Kit.run(x, true, 0, 8), "0");
+        Kit.due("OUTPUT", Kit.outputs(x), "3 7");
+        Kit.due("STEPS", x.result(1), 5);
     }
 
     /** "(1 ahead of it)" */

@@ -23,6 +23,7 @@ public final class EdgeTypesTest {
         fittingARef();
         fittingWhatIsTold();
         whatACastGives();
+        whatIsGiven();
         fittingAnything();
         eachOfThemMustFit();
         meetingInLocals();
@@ -143,6 +144,23 @@ public final class EdgeTypesTest {
                 String code = making(type, "x") + "CAST " + c + "; TRAP";
                 ShrinkHouse x = Kit.dueNoFault(HEAD + "method 1 1 0 0;" + code);
                 Kit.due(type + " CAST " + c, x.type(0, instructions(code), 30), 4 + c);
+            }
+        }
+    }
+
+    /** "its TYPE", "its RESULT", "that", "what it has": what comes to the stack, of another CLASS than the one that has it */
+    private static void whatIsGiven() {
+        for (int type = 0; type < 6; type++) {
+            String head = "class 1 0; class 2 1; class 3 1; class 4 3; class 5 0; field 1 " + type + " 0; field 2 " + type
+                    + " 1; method 1 1 " + (type + 1) + " 0; TRAP; method 2 0 " + (type + 1) + " 1; TRAP; method 3 1 0 1 " + type
+                    + ";";
+            int due = type == 0 ? 1 : 4 + type - 1;
+            String[] codes = {"NEW 4; GET 4 0", "NULL; GET 4 0", "NULL; READ 4 1", "NULL; POP; CALL 4 0",
+                "NULL; CALL 4 1", "NEW 4; SEND 4 1", "NULL; POP; LOAD 0", "LOAD 0; DUP"};
+            for (String code : codes) {
+                ShrinkHouse x = Kit.dueNoFault(head + code + "; TRAP");
+                int last = code.split(";").length;
+                Kit.due(code + " of TYPE " + type, x.type(2, last, 29 + x.type(2, last, 1)), due);
             }
         }
     }
