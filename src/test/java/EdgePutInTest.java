@@ -178,6 +178,11 @@ public final class EdgePutInTest {
         String result = "CALL 0 1; POP; RETURN; method 2 1 1 0; READ 0 0; RETURN";
         Kit.due("9 under it and its RESULT", Kit.shrunk("class 1 0; field 1 0 1; method 1 1 0 0;" + "NULL;".repeat(9) + result,
                 0, 12).made(1), 1);
+        // a LEAF that puts nothing on the stack has room with ten under it, one that puts one there has not
+        String nothing = "NULL;".repeat(10) + "CALL 0 1; RETURN; method 2 1 0 0; RETURN";
+        Kit.due("10 under it", Kit.shrunk("class 1 0; method 1 1 0 0;" + nothing, 0, 12).made(1), 1);
+        String something = nothing.replace("0 0; RETURN", "0 0; NEW 0; POP; RETURN");
+        Kit.due("10 under it and 1", Kit.shrunk("class 1 0; method 1 1 0 0;" + something, 0, 12).made(1), 0);
     }
 
     /**

@@ -2,7 +2,31 @@ public final class Promise01NewObjectTest {
     public static void main(String[] args) {
         nothingIsThere();
         theTapeIsEmpty();
+        besideAnotherOne();
         Kit.finish();
+    }
+
+    /** What another object has, be it used before or in between, is not this one's. */
+    private static void besideAnotherOne() {
+        String source = "class 1 0; method 1 1 0 0; CALL 0 1; RETURN; method 2 1 0 0; INT 7; OUT; TRAP";
+        ShrinkHouse x = Kit.shrunk(source, 0, 12);
+        Kit.due("run", Kit.run(x, true, 0, 100), "1");
+        x.feed(1, 2, 3, 4, 5);
+        nothingIsThere();
+        theTapeIsEmpty();
+        ShrinkHouse y = Kit.house("class 1 0; method 1 1 0 0; RETURN");
+        y.entry(0);
+        Kit.shrink(y, 0);
+        Kit.run(y, false, 0, 100);
+        Kit.due("FAULT of another", Kit.read(y, "class 1 0; method 1 1 0 0; POP; RETURN"), 3);
+        Kit.due("fault(0)", x.fault(0), 0);
+        Kit.due("size", x.size(false, 2), 2);
+        Kit.due("size of the small one", x.size(true, 2), 2);
+        Kit.due("type", x.type(1, 1, 30), 1);
+        Kit.due("out", x.out(2), 1);
+        Kit.due("output", x.output(0), 7);
+        Kit.due("trace", Kit.traces(x), "1002 0");
+        Kit.due("the TAPE", x.end(20), true);
     }
 
     private static void nothingIsThere() {
