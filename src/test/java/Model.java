@@ -5,8 +5,8 @@ import java.util.List;
 import java.util.Set;
 
 /**
- * The program of the document once more, written from its words alone: with lists and objects, jumps that hold what they
- * go to, types that are words. It is slow, and shares nothing with ShrinkHouse.
+ * The program of the document once more, as its words have it: with lists and objects, jumps that hold what they go to,
+ * types that are words. It is slow, and shares no code with ShrinkHouse.
  */
 final class Model {
     static final int NONE = -1;

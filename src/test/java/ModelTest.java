@@ -6,7 +6,7 @@ import java.util.function.ToIntFunction;
 
 /**
  * Random containers (always the same ones), with and without a FAULT: all that can be asked of them, of their small
- * programs, of runs, and of what again() makes, against the Model, which was written from the document by itself.
+ * programs, of runs, and of what again() makes, against the Model.
  */
 public final class ModelTest {
     /** So many questions to one object at most, beside what it is told before. */
